@@ -508,7 +508,7 @@ public final class MediaCatalog {
         return false;
     }
 
-    /** Whether the text is a rule and all albums that it names exist, with numbers below this one. */
+    /** Whether the text is a rule and each album that it names exists and has a lower number. */
     private boolean isTextUsable(int below) {
         if (text.firstFault() != NONE) {
             return false;
@@ -863,7 +863,7 @@ public final class MediaCatalog {
             stacked |= only(file);
         }
 
-        /** Takes a file from its stack, if it has one, and ends a stack of which one file is left. */
+        /** Takes a file from its stack, if it has one, and ends a stack with one file left. */
         void release(int file) {
             int stack = homes[file];
             if (stack == NONE) {
@@ -925,7 +925,7 @@ public final class MediaCatalog {
             }
         }
 
-        /** Of a set of files that touches a collapsed stack, leaves the one that is shown for it. */
+        /** Leaves of the stack, if it has files in the set, only the one that is shown. */
         long withoutHidden(int stack, long set) {
             long rest = set;
             int shown = NONE;
@@ -1143,14 +1143,18 @@ public final class MediaCatalog {
             open = 0;
             beginLevel();
             for (int position = 0; position < rule.length(); position++) {
-                read(rule, position);
+                char character = rule.at(position);
+                if (character >= 'a' && character <= 'z') {
+                    take(condition(rule, position));
+                } else {
+                    operate(character);
+                }
             }
             return ended[0] | running[0];
         }
 
-        /** What belongs to a condition is read with its letter, and does nothing here. */
-        private void read(RuleText rule, int position) {
-            char character = rule.at(position);
+        /** "&" does nothing, nor does what has been read with the letter of its condition. */
+        private void operate(char character) {
             switch (character) {
                 case '!':
                     negated[open] = !negated[open];
@@ -1166,9 +1170,6 @@ public final class MediaCatalog {
                     closeLevel();
                     break;
                 default:
-                    if (character >= 'a' && character <= 'z') {
-                        take(condition(rule, position));
-                    }
                     break;
             }
         }
@@ -1235,11 +1236,15 @@ public final class MediaCatalog {
 
         private long comparing(RuleText rule, int position) {
             int field = RuleText.fieldNamed(rule.at(position));
+            if (field == NONE) {
+                return 0;
+            }
             char sign = rule.at(position + 1);
             int number = rule.numberAt(position + 2);
             long found = 0;
-            for (int file = 0; file < MAX_FILES && field != NONE; file++) {
-                if (holds(files.all(), file) && agrees(files.settledValue(file, field), sign, number)) {
+            for (int file = 0; file < MAX_FILES; file++) {
+                int value = files.settledValue(file, field);
+                if (holds(files.all(), file) && agrees(value, sign, number)) {
                     found |= only(file);
                 }
             }

@@ -65,6 +65,9 @@ final class FilesTest {
         Due.is("add: 41st", x.add(1, 1), Due.LIMIT);
         Due.is("add: wrong and full", x.add(1, 0), Due.INVALID);
         Due.is("add: full", x.fileCount(), 40);
+        Due.is("add: the last one", x.value(39, 7), 39);
+        Due.is("setValue: of the last one", x.setValue(39, 2, 5, 1023), Due.MISSING);
+        Due.is("value: of the last one", x.value(39, 5), 1023);
         x.remove(17);
         x.remove(3);
         Due.is("add: lowest free", x.add(1, 1), 3);

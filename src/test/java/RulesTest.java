@@ -261,6 +261,9 @@ final class RulesTest {
         selects(x, "t0&t1", 2);
         selects(x, "t0|t1", 6);
         selects(x, "t0&t1|t2", 5);
+        selects(x, "t0|t1|t2", 7);
+        selects(x, "t0&t1&t2", 1);
+        selects(x, "t0|t1&t2|t2&!t1", 6);
         selects(x, "t0|t1&t2", 5);
         selects(x, "(t0|t1)&t2", 3);
         selects(x, "t2&(t0|t1)", 3);
@@ -303,6 +306,12 @@ final class RulesTest {
         Due.album(x, "a0&r=4");
         selects(x, "a1", 1);
         Due.is("a1: its file", x.satisfies(1), 1);
+        Due.rule(x, "r=5");
+        for (int album = 2; album < 8; album++) {
+            x.makeAlbum();
+        }
+        selects(x, "a7", 1);
+        selects(x, "!a7&a0", 1);
         x.removeAlbum(1);
         Due.rule(x, "a1");
         Due.is("a1: removed", x.select(), Due.IMPOSSIBLE);
