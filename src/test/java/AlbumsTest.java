@@ -13,6 +13,8 @@ final class AlbumsTest {
         albumSizeAndIsIn();
         albumsFollowEveryCall();
         albumsFollowAlbums();
+        chainOfEight();
+        viewTies();
         ruleIsKept();
         sortBy();
         viewOrders();
@@ -378,5 +380,41 @@ final class AlbumsTest {
         Due.is("count: groups then", x.count(2), 1);
         Due.is("count: stacked files then", x.count(3), 3);
         Due.is("count: sizes then", x.count(4), 612);
+    }
+
+    private static void chainOfEight() {
+        MediaCatalog x = Due.catalogOf(1);
+        Due.album(x, "r=5");
+        for (int album = 1; album < 8; album++) {
+            Due.is("chain: makeAlbum", Due.album(x, "!a" + (album - 1)), album);
+        }
+        int before = x.journalSize();
+        x.setValue(0, 0, 1, 5);
+        Due.is("chain: one call changes all", x.journalSize() - before, 8);
+        for (int album = 0; album < 8; album++) {
+            Due.is("chain: isIn " + album, x.isIn(album, 0), album % 2 == 0 ? 1 : 0);
+            Due.is("chain: entry of " + album, x.journalAt(7 - album, 0), album);
+            Due.is("chain: entry of " + album, x.journalAt(7 - album, 2), album % 2 == 0 ? 1 : 0);
+            Due.is("chain: removeAlbum " + album, x.removeAlbum(album), album == 7 ? 7 : Due.IMPOSSIBLE);
+        }
+        Due.is("chain: removeAlbum 6, named no more", x.removeAlbum(6), 6);
+    }
+
+    /** Files that are alike, with and without a value, are shown by their numbers in either order. */
+    private static void viewTies() {
+        for (int down = 0; down <= 1; down++) {
+            MediaCatalog x = Due.catalogOf(8);
+            Due.album(x, "b");
+            x.sortBy(0, 3, down);
+            int[] cameras = {-1, 20, 0, -1, 0, 20, 0, -1};
+            for (int file = 7; file >= 0; file--) {
+                x.setValue(file, 1, 3, cameras[file]);
+            }
+            if (down == 1) {
+                view(x, "alike, descending", 0, 1, 5, 2, 4, 6, 0, 3, 7);
+            } else {
+                view(x, "alike, ascending", 0, 2, 4, 6, 1, 5, 0, 3, 7);
+            }
+        }
     }
 }

@@ -12,6 +12,8 @@ final class DuplicatesTest {
         wasted();
         mergeAnswers();
         mergeValues();
+        mergeEachField();
+        mergeBySources();
         mergeTags();
         mergeStacks();
         mergeAlbums();
@@ -194,5 +196,57 @@ final class DuplicatesTest {
         Due.is("merge: the one before, joined", x.journalAt(1, 2), 1);
         Due.is("merge: first entry, album", x.journalAt(4, 0), 0);
         Due.is("merge: first entry, file", x.journalAt(4, 1), 0);
+    }
+
+    /** The group of the files 0 to 3, of which 1 is the keeper. */
+    private static MediaCatalog keptByOne() {
+        MediaCatalog x = group(4);
+        x.setValue(1, 0, 1, 5);
+        x.setValue(1, 1, 1, 5);
+        x.setValue(1, 2, 1, 5);
+        return x;
+    }
+
+    private static void mergeEachField() {
+        int[] least = {0, 0, 1900, 0, 0};
+        for (int field = 0; field <= 4; field++) {
+            for (int source = 0; source <= 2 && field != 1; source++) {
+                String what = "merge: field " + field + " of source " + source;
+                MediaCatalog x = keptByOne();
+                x.setValue(0, source, field, least[field]);
+                x.setValue(2, source, field, least[field] + 1);
+                x.merge(0);
+                Due.is(what + ", of a lower number", x.clearValue(1, source, field), least[field]);
+                x = keptByOne();
+                x.setValue(2, source, field, least[field]);
+                x.setValue(3, source, field, least[field] + 1);
+                x.merge(1);
+                Due.is(what + ", of a greater number", x.clearValue(1, source, field), least[field]);
+                x = keptByOne();
+                x.setValue(0, source, field, least[field] + 2);
+                x.setValue(1, source, field, least[field]);
+                x.setValue(2, source, field, least[field] + 1);
+                x.merge(2);
+                Due.is(what + ", its own", x.clearValue(1, source, field), least[field]);
+                x = keptByOne();
+                x.setValue(0, (source + 1) % 3, field, least[field]);
+                x.merge(3);
+                Due.is(what + ", only another source has one", x.clearValue(1, source, field), Due.MISSING);
+            }
+        }
+    }
+
+    /** What a source did not tell of the keeper may come before what made it the keeper. */
+    private static void mergeBySources() {
+        MediaCatalog x = group(2);
+        x.setValue(0, 0, 1, 3);
+        x.setValue(0, 2, 2, 2001);
+        x.setValue(1, 1, 1, 4);
+        Due.is("merge: the keeper before", x.keeperOf(0), 1);
+        Due.is("merge: one goes", x.merge(0), 1);
+        Due.is("merge: the first source tells now", x.value(1, 1), 3);
+        Due.is("merge: the first source", x.sourceOf(1, 1), 0);
+        Due.is("merge: the year came too", x.value(1, 2), 2001);
+        Due.is("merge: by its source", x.sourceOf(1, 2), 2);
     }
 }

@@ -1,5 +1,7 @@
 /** Promises 1 to 10: files and metadata. */
 final class FilesTest {
+    private static final int[][] ORDERS = {{0, 1, 2}, {0, 2, 1}, {1, 0, 2}, {1, 2, 0}, {2, 0, 1}, {2, 1, 0}};
+
     private FilesTest() {
     }
 
@@ -17,6 +19,8 @@ final class FilesTest {
         tags();
         valueArguments();
         setOrder();
+        everyOrder();
+        tagsInEveryOrder();
         newFileHasNoValues();
         Due.end();
     }
@@ -256,6 +260,40 @@ final class FilesTest {
         Due.is("add: no tags", x.value(0, 5), 0);
         for (int source = 0; source <= 2; source++) {
             Due.is("add: source has none", x.clearValue(0, source, 5), Due.MISSING);
+        }
+    }
+
+    /** Each of the six orders with each set of sources that have a value. */
+    private static void everyOrder() {
+        for (int[] order : ORDERS) {
+            for (int tellers = 0; tellers < 8; tellers++) {
+                MediaCatalog x = Due.catalogOf(1);
+                for (int source = 0; source <= 2; source++) {
+                    if ((tellers >> source & 1) == 1) {
+                        x.setValue(0, source, 2, 2000 + source);
+                    }
+                }
+                x.setOrder(order[0], order[1], order[2]);
+                int due = Due.MISSING;
+                for (int rank = 2; rank >= 0; rank--) {
+                    due = (tellers >> order[rank] & 1) == 1 ? order[rank] : due;
+                }
+                String what = "order " + order[0] + order[1] + order[2] + " of sources " + tellers;
+                Due.is(what + ": source", x.sourceOf(0, 2), due);
+                Due.is(what + ": value", x.value(0, 2), due == Due.MISSING ? due : 2000 + due);
+                Due.is(what + ": another field", x.value(0, 3), Due.MISSING);
+            }
+        }
+    }
+
+    private static void tagsInEveryOrder() {
+        MediaCatalog x = Due.catalogOf(1);
+        x.setValue(0, 0, 5, 3);
+        x.setValue(0, 1, 5, 0);
+        x.setValue(0, 2, 5, 640);
+        for (int[] order : ORDERS) {
+            x.setOrder(order[0], order[1], order[2]);
+            Due.is("tags: the union in any order", x.value(0, 5), 643);
         }
     }
 }

@@ -7,6 +7,8 @@ final class JournalTest {
         oneCallOneFile();
         orderInOneCall();
         onlyTheOutcomeCounts();
+        removedWithItsStack();
+        errorsMakeNoEntries();
         latestEntries();
         oneCallWithManyEntries();
         removedAlbum();
@@ -165,5 +167,40 @@ final class JournalTest {
         Due.is("turnover: no album", x.turnover(1, 1), Due.INVALID);
         Due.is("turnover: album beyond", x.turnover(8, 1), Due.INVALID);
         Due.is("turnover: negative album", x.turnover(-1, 1), Due.INVALID);
+    }
+
+    /** The file that is left over leaves the album of stacked files, too. */
+    private static void removedWithItsStack() {
+        MediaCatalog x = Due.catalogOf(5);
+        x.stack(3, 1);
+        Due.album(x, "s");
+        Due.album(x, "!s");
+        int before = x.journalSize();
+        x.remove(3);
+        Due.is("remove: of a stack of two, entries", x.journalSize() - before, 3);
+        entry(x, 2, 0, 1, 0);
+        entry(x, 1, 0, 3, 0);
+        entry(x, 0, 1, 1, 1);
+        x.removeAlbum(0);
+        Due.is("removeAlbum: makes none", x.journalSize() - before, 3);
+        entry(x, 2, 0, 1, 0);
+        x.add(1, 1);
+        Due.is("add: one entry", x.journalSize() - before, 4);
+        entry(x, 0, 1, 3, 1);
+    }
+
+    private static void errorsMakeNoEntries() {
+        MediaCatalog x = Due.catalogOf(2);
+        Due.album(x, "!r?");
+        int[] answers = {x.setValue(0, 0, 1, 6), x.clearValue(0, 0, 1), x.remove(2), x.stack(0, 0), x.changeRule(1),
+            x.add(-1, 1)};
+        int[] due = {Due.INVALID, Due.MISSING, Due.INVALID, Due.INVALID, Due.INVALID, Due.INVALID};
+        for (int i = 0; i < due.length; i++) {
+            Due.is("refused " + i, answers[i], due[i]);
+        }
+        Due.is("refused: no entries", x.journalSize(), 2);
+        Due.is("setValue: had none, but is no error", x.setValue(0, 0, 1, 0), Due.MISSING);
+        Due.is("setValue: makes an entry", x.journalSize(), 3);
+        entry(x, 0, 0, 0, 0);
     }
 }

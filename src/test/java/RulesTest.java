@@ -11,6 +11,9 @@ final class RulesTest {
         faultAtTheEnd();
         parentheses();
         longTexts();
+        nextCharacters();
+        manySigns();
+        endsOfRanges();
         comparisons();
         noValue();
         otherConditions();
@@ -347,5 +350,58 @@ final class RulesTest {
         Due.is("select: removed", x.select(), 0);
         x.add(1, 1);
         Due.is("select: a new file with its number", x.satisfies(1), 0);
+    }
+
+    /** For each beginning of a rule: of all characters, exactly these can be next. */
+    private static void nextCharacters() {
+        String item = "krycdtasvub(!";
+        String digits = "0123456789";
+        String[][] next = {{"", item}, {"!", item}, {"!!", item}, {"(", item}, {"s&", item}, {"s|", item},
+            {"(s&", item}, {"k=1|", item}, {times("(", 9), item}, {times("(", 10), item.replace("(", "")},
+            {times("(", 10) + "s&", item.replace("(", "")}, {times("(", 10) + "s)&", item}, {"k", "<=>?"}, {"r", "<=>?"},
+            {"y", "<=>?"}, {"c", "<=>?"}, {"d", "<=>?"}, {"k<", digits}, {"k=", digits}, {"k>", digits},
+            {"k<1", digits + "&|"}, {"k=1234", digits + "&|"}, {"(k>1", digits + "&|)"}, {"k=12345", "&|"},
+            {"(k=12345", "&|)"}, {"k?", "&|"}, {"(k?", "&|)"}, {"t", digits}, {"a", digits}, {"t0", "&|"}, {"a9", "&|"},
+            {"(t9", "&|)"}, {"(a0", "&|)"}, {"s", "&|"}, {"v", "&|"}, {"u", "&|"}, {"b", "&|"}, {"(s", "&|)"},
+            {"(v", "&|)"}, {"(u", "&|)"}, {"(b", "&|)"}, {"(s)", "&|"}, {"((s)", "&|)"}, {"((s))", "&|"}};
+        for (String[] row : next) {
+            for (char character = 33; character <= 126; character++) {
+                MediaCatalog x = new MediaCatalog();
+                Due.typed(x, row[0] + character);
+                int length = row[0].length();
+                int due = row[1].indexOf(character) < 0 ? length : x.fault() == Due.MISSING ? Due.MISSING : length + 1;
+                Due.is("fault of " + row[0] + character, x.fault(), due);
+            }
+        }
+    }
+
+    private static void manySigns() {
+        MediaCatalog x = Due.catalogOf(3);
+        x.setValue(1, 0, 5, 8);
+        for (int signs = 0; signs <= 20; signs++) {
+            int due = signs % 2 == 0 ? 1 : 2;
+            selects(x, times("!", signs) + "t3", due);
+            selects(x, times("!", signs) + "(t3)", due);
+            selects(x, times("!", signs) + "(" + times("!", signs) + "t3)", 1);
+            selects(x, "b&" + times("!", signs) + "t3|s", due);
+        }
+    }
+
+    private static void endsOfRanges() {
+        String[] letters = {"k", "r", "y", "c", "d"};
+        int[] least = {0, 0, 1900, 0, 0};
+        int[] greatest = {2, 5, 2100, 20, 9999};
+        for (int field = 0; field <= 4; field++) {
+            MediaCatalog x = Due.catalogOf(3);
+            x.setValue(0, 0, field, least[field]);
+            x.setValue(1, 0, field, greatest[field]);
+            selects(x, letters[field] + "<" + least[field], 0);
+            selects(x, letters[field] + "=" + least[field], 1);
+            selects(x, letters[field] + ">" + least[field], 1);
+            selects(x, letters[field] + "<" + greatest[field], 1);
+            selects(x, letters[field] + "=" + greatest[field], 1);
+            selects(x, letters[field] + ">" + greatest[field], 0);
+            selects(x, letters[field] + "<" + (greatest[field] + 1), 2);
+        }
     }
 }
